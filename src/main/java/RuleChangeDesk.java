@@ -581,7 +581,7 @@ public final class RuleChangeDesk {
         }
 
         int switchOf(int host) {
-            return hasHost(host) ? hostSwitches[host] : 0;
+            return host >= 0 && host < hostCount ? hostSwitches[host] : 0;
         }
 
         int hostAt(int s, int p) {
@@ -764,6 +764,11 @@ public final class RuleChangeDesk {
 
         Judge(Net net) {
             this.net = net;
+            // So that no place of the row is ever null.
+            Want blank = new Want(NO_RING, 0, 0, 0, 0, 0);
+            for (int i = 0; i < WANTS; i++) {
+                wants[i] = blank;
+            }
         }
 
         /** What was found out is no longer so once the net, a rule or a want changes. */
@@ -982,15 +987,6 @@ public final class RuleChangeDesk {
             return leastNotGood(ahead, set);
         }
 
-        private int leastNotGood(int ahead, int set) {
-            for (int some = 0; some <= set && some < MIXTURES; some++) {
-                if (isWithin(some, set) && !judge.isGood(ahead | some)) {
-                    return ahead | some;
-                }
-            }
-            return NONE;
-        }
-
         /** Makes the plan the one of the fewest rounds; false, and it stays, if there is none. */
         boolean makeLeast(Plan plan) {
             judge.findGood();
@@ -1047,6 +1043,15 @@ public final class RuleChangeDesk {
                 }
             }
             return orderings[0];
+        }
+
+        private int leastNotGood(int ahead, int set) {
+            for (int some = 0; some <= set && some < MIXTURES; some++) {
+                if (isWithin(some, set) && !judge.isGood(ahead | some)) {
+                    return ahead | some;
+                }
+            }
+            return NONE;
         }
 
         private int fewestFrom(int done, int unlike) {
