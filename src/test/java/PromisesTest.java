@@ -56,6 +56,7 @@ public final class PromisesTest {
         run();
         packet();
         whatEndsARun();
+        fullDesk();
         wrongInputsEverywhere();
         System.out.println(wrong == 0 ? "all answers are as due" : wrong + " answers are not as due");
         if (wrong != 0) {
@@ -270,6 +271,11 @@ public final class PromisesTest {
         due("5 two left", x.look(1), 2);
         due("5 now the last, but wanted", x.unplug(0, 1), false);
         due("5 its port is free", x.host(0, 3), 2);
+        RuleChangeDesk y = new RuleChangeDesk();
+        y.host(0, 1);
+        due("5 the only host", y.unplug(0, 1), true);
+        due("5 no host is left", y.look(1), 0);
+        due("5 the next is 0 again", y.host(0, 2), 0);
     }
 
     // ---- promise 6 and term 1
@@ -687,6 +693,50 @@ public final class PromisesTest {
         x.rule(1, 1, 1, 1, 2, 4);
         x.want(4, 0, 0, 0, 0, 0);
         due("15 one mark by old, another by new", x.holds(0, 1), 1);
+        holdsWholeBySwitches();
+    }
+
+    /** Ways of one length and one end, which a switch alone tells apart. */
+    private static void holdsWholeBySwitches() {
+        RuleChangeDesk x = new RuleChangeDesk();
+        x.net(6);
+        x.host(0, 0);
+        for (int s = 1; s <= 3; s++) {
+            x.link(0, s, s, 0);
+            x.link(s, 1, 4, s - 1);
+        }
+        x.host(4, 3);
+        x.rule(0, 0, 0, 0, 0, 1);
+        x.rule(1, 0, 0, 0, 0, 2);
+        for (int s = 1; s <= 3; s++) {
+            x.rule(0, s, 0, 0, 0, 1);
+            x.copy(s, true);
+        }
+        x.rule(0, 4, 0, 0, 0, 3);
+        x.copy(4, true);
+        x.want(4, 0, 0, 0, 0, 0);
+        due("15 by 2 is as by new", x.holds(0, 1), 1);
+        x.round(1);
+        x.begin();
+        x.send(0, 0);
+        x.hop(0);
+        x.hop(0);
+        x.hop(0);
+        due("30 by 1 is as by old", x.run(4), 0);
+        // By old 0 drops; by new the way is 0, 1, 3; with 0 alone new it is 0, 1, 2.
+        x.net(4);
+        x.host(0, 0);
+        x.link(0, 1, 1, 0);
+        x.link(1, 1, 2, 0);
+        x.link(1, 2, 3, 0);
+        x.rule(0, 0, 0, 0, 0, 4);
+        x.rule(1, 0, 0, 0, 0, 1);
+        x.rule(0, 1, 0, 0, 0, 1);
+        x.rule(1, 1, 0, 0, 0, 2);
+        x.want(4, 0, 0, 0, 0, 0);
+        due("15 by new 0, 1, 3", x.way(15, 0, 0) * 100 + x.on(-1), 310);
+        due("15 mixed 0, 1, 2", x.way(1, 0, 0) * 100 + x.on(-1), 310);
+        due("15 another switch on the way", x.holds(0, 1), 0);
     }
 
     // ---- promise 16
@@ -1363,6 +1413,44 @@ public final class PromisesTest {
             case 22: return x.unwant(1);
             default: return x.round(1);
         }
+    }
+
+    // ---- all limits at once
+
+    private static void fullDesk() {
+        RuleChangeDesk x = new RuleChangeDesk();
+        x.net(7);
+        for (int s = 0; s < 7; s++) {
+            x.link(s, 0, (s + 1) % 7, 1);
+        }
+        for (int h = 0; h < 6; h++) {
+            due("full host " + h, x.host(h, 2), h);
+        }
+        for (int i = 0; i < 84; i++) {
+            due("full rule " + i, x.rule(i % 2, i / 12, i % 16, 15, 9, i % 12 / 2 % 2 * 2), 1 + i % 12 / 2);
+        }
+        for (int i = 0; i < 10; i++) {
+            due("full want " + i, x.want(4 - i % 5, 0, 0, i % 5, (i + 1) % 5, 6), i);
+        }
+        due("full rules", x.look(3), 84);
+        due("full: a row takes no more", x.rule(1, 6, 0, 0, 0, 0), NONE);
+        due("full: strike the last", x.strike(1, 6, 5), 5);
+        due("full: and put it back", x.rule(1, 6, 15, 15, 9, 0), 6);
+        due("full: copy", x.copy(0, true), 6);
+        due("full: host 5 is wanted by none", x.unplug(5, 2), true);
+        due("full: again", x.host(5, 2), 5);
+        due("full: whole is kept", x.kept(0) * 10 + x.kept(5), 11);
+        due("full: no want 10", x.kept(10), NONE);
+        due("full: why", x.why(127, 0), NONE);
+        due("full: unlike", x.look(5), 126);
+        x.round(126);
+        x.begin();
+        for (int k = 0; k < 40; k++) {
+            due("full packet " + k, x.send(k % 6, k % 16), k);
+            x.hop(k);
+        }
+        due("full: no packet 40", x.packet(40, 0), NONE);
+        due("full: a want goes", x.unwant(9), 9);
     }
 
     // ---- no call throws, whatever it is given
