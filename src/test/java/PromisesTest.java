@@ -3,17 +3,13 @@ public final class PromisesTest {
     private static final int NONE = RuleChangeDesk.NONE;
     private static final int LOW = Integer.MIN_VALUE;
     private static final int HIGH = Integer.MAX_VALUE;
-    private static int wrong = 0;
 
     private static void due(String what, int got, int due) {
-        if (got != due) {
-            wrong++;
-            System.out.println(what + ": answered " + got + ", due is " + due);
-        }
+        Check.due(what, got, due);
     }
 
     private static void due(String what, boolean got, boolean due) {
-        due(what, got ? 1 : 0, due ? 1 : 0);
+        Check.due(what, got, due);
     }
 
     public static void main(String[] args) {
@@ -58,70 +54,13 @@ public final class PromisesTest {
         whatEndsARun();
         fullDesk();
         wrongInputsEverywhere();
-        System.out.println(wrong == 0 ? "all answers are as due" : wrong + " answers are not as due");
-        if (wrong != 0) {
-            System.exit(1);
-        }
-    }
-
-    // ---- nets that several tests use
-
-    /**
-     * Host 0 at switch 0, host 1 at switch 2; old way 0, 1, 2, new way 0, 2. Switch 1 sends nothing
-     * by its new rules, so it must change behind switch 0.
-     */
-    private static RuleChangeDesk triangle() {
-        RuleChangeDesk x = new RuleChangeDesk();
-        x.net(3);
-        x.link(0, 1, 1, 0);
-        x.link(1, 1, 2, 0);
-        x.link(0, 2, 2, 1);
-        x.host(0, 0);
-        x.host(2, 3);
-        x.rule(0, 0, 0, 0, 1, 1);
-        x.rule(0, 1, 0, 0, 1, 1);
-        x.rule(0, 2, 0, 0, 1, 3);
-        x.rule(1, 0, 0, 0, 1, 2);
-        x.rule(1, 2, 0, 0, 1, 3);
-        return x;
-    }
-
-    /** The triangle with the want that all marks come from host 0 to host 1. */
-    private static RuleChangeDesk wantedTriangle() {
-        RuleChangeDesk x = triangle();
-        x.want(0, 0, 0, 0, 1, 0);
-        return x;
-    }
-
-    /** So many switches without links, each with a rule in NEW alone: all are unlike, all is good. */
-    private static RuleChangeDesk loose(int n) {
-        RuleChangeDesk x = new RuleChangeDesk();
-        x.net(n);
-        for (int s = 0; s < n; s++) {
-            x.rule(1, s, 0, 0, 0, 4);
-        }
-        return x;
-    }
-
-    /** A line of switches, each sending on by port 1; host 0 at the first, host 1 at the last. */
-    private static RuleChangeDesk line(int n) {
-        RuleChangeDesk x = new RuleChangeDesk();
-        x.net(n);
-        x.host(0, 0);
-        x.host(n - 1, 1);
-        for (int s = 0; s < n; s++) {
-            if (s + 1 < n) {
-                x.link(s, 1, s + 1, 0);
-            }
-            x.rule(0, s, 0, 0, 3, 1);
-        }
-        return x;
+        Check.finish();
     }
 
     // ---- promise 1
 
     private static void newObject() {
-        RuleChangeDesk x = new RuleChangeDesk();
+        CountedDesk x = new CountedDesk();
         due("1 NONE", RuleChangeDesk.NONE, -1);
         due("1 switches", x.look(0), 1);
         for (int what = 1; what <= 5; what++) {
@@ -142,7 +81,7 @@ public final class PromisesTest {
     // ---- promise 2
 
     private static void net() {
-        RuleChangeDesk x = wantedTriangle();
+        CountedDesk x = Scenes.wantedTriangle();
         due("2 net 0", x.net(0), false);
         due("2 net 8", x.net(8), false);
         due("2 net -1", x.net(-1), false);
@@ -173,7 +112,7 @@ public final class PromisesTest {
     // ---- promise 3
 
     private static void link() {
-        RuleChangeDesk x = new RuleChangeDesk();
+        CountedDesk x = new CountedDesk();
         x.net(3);
         due("3 first", x.link(0, 0, 2, 3), true);
         due("3 count", x.look(2), 1);
@@ -200,7 +139,7 @@ public final class PromisesTest {
     // ---- promise 4
 
     private static void host() {
-        RuleChangeDesk x = new RuleChangeDesk();
+        CountedDesk x = new CountedDesk();
         x.net(2);
         x.link(0, 3, 1, 3);
         due("4 first", x.host(1, 0), 0);
@@ -226,7 +165,7 @@ public final class PromisesTest {
     // ---- promise 5
 
     private static void unplugLinks() {
-        RuleChangeDesk x = new RuleChangeDesk();
+        CountedDesk x = new CountedDesk();
         x.net(3);
         x.link(0, 0, 1, 1);
         x.link(1, 0, 2, 2);
@@ -246,7 +185,7 @@ public final class PromisesTest {
     }
 
     private static void unplugHosts() {
-        RuleChangeDesk x = new RuleChangeDesk();
+        CountedDesk x = new CountedDesk();
         x.host(0, 0);
         x.host(0, 1);
         x.host(0, 2);
@@ -271,7 +210,7 @@ public final class PromisesTest {
         due("5 two left", x.look(1), 2);
         due("5 now the last, but wanted", x.unplug(0, 1), false);
         due("5 its port is free", x.host(0, 3), 2);
-        RuleChangeDesk y = new RuleChangeDesk();
+        CountedDesk y = new CountedDesk();
         y.host(0, 1);
         due("5 the only host", y.unplug(0, 1), true);
         due("5 no host is left", y.look(1), 0);
@@ -281,7 +220,7 @@ public final class PromisesTest {
     // ---- promise 6 and term 1
 
     private static void rule() {
-        RuleChangeDesk x = new RuleChangeDesk();
+        CountedDesk x = new CountedDesk();
         x.net(2);
         int[][] no = {{-1, 0, 0, 0, 0, 0}, {2, 0, 0, 0, 0, 0}, {0, -1, 0, 0, 0, 0}, {0, 2, 0, 0, 0, 0},
             {0, 0, -1, 0, 0, 0}, {0, 0, 16, 0, 0, 0}, {0, 0, 0, -1, 0, 0}, {0, 0, 0, 16, 0, 0},
@@ -301,7 +240,7 @@ public final class PromisesTest {
     }
 
     private static void whichRuleActs() {
-        RuleChangeDesk x = new RuleChangeDesk();
+        CountedDesk x = new CountedDesk();
         x.host(0, 0);
         x.host(0, 1);
         x.host(0, 2);
@@ -329,7 +268,7 @@ public final class PromisesTest {
         due("t1 rank 0 acts", endOf(x, 0, 5), 0);
     }
 
-    private static int endOf(RuleChangeDesk x, int mixture, int mark) {
+    private static int endOf(CountedDesk x, int mixture, int mark) {
         x.way(mixture, 0, mark);
         return x.on(-1);
     }
@@ -337,7 +276,7 @@ public final class PromisesTest {
     // ---- promise 7
 
     private static void strike() {
-        RuleChangeDesk x = new RuleChangeDesk();
+        CountedDesk x = new CountedDesk();
         x.net(2);
         x.host(0, 0);
         x.host(0, 1);
@@ -369,7 +308,7 @@ public final class PromisesTest {
     // ---- promise 8
 
     private static void copy() {
-        RuleChangeDesk x = new RuleChangeDesk();
+        CountedDesk x = new CountedDesk();
         x.net(2);
         x.host(0, 0);
         x.host(0, 1);
@@ -398,7 +337,7 @@ public final class PromisesTest {
     // ---- promise 9
 
     private static void want() {
-        RuleChangeDesk x = new RuleChangeDesk();
+        CountedDesk x = new CountedDesk();
         x.net(2);
         x.host(0, 0);
         x.host(1, 0);
@@ -427,7 +366,7 @@ public final class PromisesTest {
     // ---- promise 10
 
     private static void unwant() {
-        RuleChangeDesk x = triangle();
+        CountedDesk x = Scenes.triangle();
         x.want(0, 0, 0, 0, 1, 0);
         x.want(2, 0, 0, 0, 1, 0);
         x.want(0, 0, 0, 1, 1, 0);
@@ -450,7 +389,7 @@ public final class PromisesTest {
     // ---- promise 11
 
     private static void look() {
-        RuleChangeDesk x = wantedTriangle();
+        CountedDesk x = Scenes.wantedTriangle();
         int[] due = {3, 2, 3, 5, 1, 3, 1, 3, 0, 0};
         for (int what = 0; what < due.length; what++) {
             due("11 look " + what, x.look(what), due[what]);
@@ -468,14 +407,14 @@ public final class PromisesTest {
         due("11 all good without wants", x.look(7), 4);
         x.want(0, 0, 0, 1, 0, 0);
         due("11 all good if none is kept", x.look(7), 4);
-        due("11 mixtures of 7", loose(7).look(7), 128);
+        due("11 mixtures of 7", Scenes.loose(7).look(7), 128);
     }
 
     private static void unlike() {
         int[][] same = {{1, 2, 3, 4}, {5, 6, 7, 0}};
         int[][] other = {{0, 2, 3, 4}, {1, 3, 3, 4}, {1, 2, 4, 4}, {1, 2, 3, 3}, {9, 2, 3, 4}};
         for (int[] c : other) {
-            RuleChangeDesk x = new RuleChangeDesk();
+            CountedDesk x = new CountedDesk();
             x.net(7);
             for (int[] r : same) {
                 x.rule(0, 6, r[0], r[1], r[2], r[3]);
@@ -496,7 +435,7 @@ public final class PromisesTest {
     // ---- promises 11 (classes) and 12
 
     private static void classes() {
-        RuleChangeDesk x = new RuleChangeDesk();
+        CountedDesk x = new CountedDesk();
         x.net(7);
         due("12 one class", x.look(6), 1);
         due("12 all in it", x.ofClass(15), 0);
@@ -538,7 +477,7 @@ public final class PromisesTest {
     // ---- promise 13
 
     private static void way() {
-        RuleChangeDesk x = triangle();
+        CountedDesk x = Scenes.triangle();
         due("13 old", x.way(0, 0, 5), 3);
         due("13 new", x.way(7, 0, 5), 2);
         due("13 0 new", x.way(1, 0, 5), 2);
@@ -551,7 +490,7 @@ public final class PromisesTest {
         for (int[] c : no) {
             due("13 refused " + java.util.Arrays.toString(c), x.way(c[0], c[1], c[2]), NONE);
         }
-        RuleChangeDesk y = line(7);
+        CountedDesk y = Scenes.line(7);
         due("13 seven switches", y.way(0, 0, 0), 7);
         due("13 mixture 127", y.way(127, 0, 0), 1);
         due("13 no mixture 128", y.way(128, 0, 0), NONE);
@@ -560,7 +499,7 @@ public final class PromisesTest {
     // ---- promise 14
 
     private static void on() {
-        RuleChangeDesk x = triangle();
+        CountedDesk x = Scenes.triangle();
         due("14 ahead of any way", x.on(0), NONE);
         due("14 end ahead of any way", x.on(-1), NONE);
         x.way(0, 9, 0);
@@ -591,7 +530,7 @@ public final class PromisesTest {
         x.strike(0, 2, 0);
         x.rule(0, 2, 0, 0, 0, 0);
         due("14 ring to the one before", x.way(0, 0, 3) * 100 + x.on(-1), 312);
-        RuleChangeDesk y = new RuleChangeDesk();
+        CountedDesk y = new CountedDesk();
         y.net(2);
         for (int i = 0; i < 6; i++) {
             y.host(i / 4, i % 4);
@@ -604,7 +543,7 @@ public final class PromisesTest {
     // ---- promise 15 and term 2
 
     private static void holdsComesAndNever() {
-        RuleChangeDesk x = triangle();
+        CountedDesk x = Scenes.triangle();
         x.rule(0, 1, 9, 15, 5, 4);
         x.want(0, 0, 0, 0, 1, 0);
         x.want(0, 8, 15, 0, 1, 0);
@@ -630,7 +569,7 @@ public final class PromisesTest {
     }
 
     private static void holdsPastAndNoRing() {
-        RuleChangeDesk x = triangle();
+        CountedDesk x = Scenes.triangle();
         x.want(3, 0, 0, 0, 1, 1);
         x.want(3, 0, 0, 0, 1, 0);
         x.want(3, 0, 0, 0, 1, 2);
@@ -654,7 +593,7 @@ public final class PromisesTest {
     }
 
     private static void holdsWhole() {
-        RuleChangeDesk x = triangle();
+        CountedDesk x = Scenes.triangle();
         x.want(4, 0, 0, 0, 0, 0);
         due("15 whole, old", x.holds(0, 0), 1);
         due("15 whole, new", x.holds(0, 7), 1);
@@ -698,7 +637,7 @@ public final class PromisesTest {
 
     /** Ways of one length and one end, which a switch alone tells apart. */
     private static void holdsWholeBySwitches() {
-        RuleChangeDesk x = new RuleChangeDesk();
+        CountedDesk x = new CountedDesk();
         x.net(6);
         x.host(0, 0);
         for (int s = 1; s <= 3; s++) {
@@ -742,7 +681,7 @@ public final class PromisesTest {
     // ---- promise 16
 
     private static void kept() {
-        RuleChangeDesk x = triangle();
+        CountedDesk x = Scenes.triangle();
         x.want(0, 0, 0, 0, 1, 0);
         x.want(3, 0, 0, 0, 1, 1);
         x.want(2, 0, 0, 0, 1, 0);
@@ -767,7 +706,7 @@ public final class PromisesTest {
     // ---- promise 17
 
     private static void why() {
-        RuleChangeDesk x = triangle();
+        CountedDesk x = Scenes.triangle();
         x.want(3, 0, 0, 0, 1, 1);
         x.want(0, 10, 10, 0, 1, 0);
         x.want(0, 3, 15, 0, 1, 0);
@@ -794,7 +733,7 @@ public final class PromisesTest {
     // ---- promise 18
 
     private static void least() {
-        RuleChangeDesk x = wantedTriangle();
+        CountedDesk x = Scenes.wantedTriangle();
         due("18 two rounds", x.least(), 2);
         due("18 0 first", x.plan(0), 1);
         due("18 then 1", x.plan(1), 2);
@@ -807,60 +746,27 @@ public final class PromisesTest {
         due("18 not kept any more", x.kept(0), 0);
         due("18 one round then", x.least(), 1);
         due("18 of both", x.plan(0), 3);
-        RuleChangeDesk y = deadlock();
+        CountedDesk y = Scenes.deadlock();
         y.round(2);
         due("18 none", y.least(), NONE);
         due("18 the plan stays", y.plan(0), 2);
         due("18 one round stays", y.look(8), 1);
-        RuleChangeDesk z = new RuleChangeDesk();
+        CountedDesk z = new CountedDesk();
         due("18 nothing unlike", z.least(), 0);
-        RuleChangeDesk w = loose(7);
+        CountedDesk w = Scenes.loose(7);
         w.round(5);
         due("18 all in one", w.least(), 1);
         due("18 127", w.plan(0), 127);
-        RuleChangeDesk v = chain();
+        CountedDesk v = Scenes.chain();
         due("18 seven rounds", v.least(), 7);
         for (int i = 0; i < 7; i++) {
             due("18 round " + i + " is from behind", v.plan(i), 1 << 6 - i);
         }
     }
 
-    /** Old drops everywhere, new sends along a line: each must be new ahead of the one before it. */
-    private static RuleChangeDesk chain() {
-        RuleChangeDesk x = new RuleChangeDesk();
-        x.net(7);
-        for (int s = 0; s < 7; s++) {
-            x.rule(1, s, 0, 0, 0, 1);
-        }
-        for (int s = 0; s < 6; s++) {
-            x.link(s, 1, s + 1, 0);
-            x.host(s, 2);
-            x.want(4, 0, 0, s, 0, 0);
-        }
-        return x;
-    }
-
-    /** Two switches, both ways WHOLE from both sides: no first change is good. */
-    private static RuleChangeDesk deadlock() {
-        RuleChangeDesk x = new RuleChangeDesk();
-        x.net(2);
-        x.link(0, 1, 1, 1);
-        x.host(0, 0);
-        x.host(1, 0);
-        for (int s = 0; s < 2; s++) {
-            x.rule(0, s, 0, 1, 1, 0);
-            x.rule(0, s, 1, 1, 1, 1);
-            x.rule(1, s, 0, 1, 1, 1);
-            x.rule(1, s, 1, 1, 1, 0);
-        }
-        x.want(4, 0, 0, 0, 0, 0);
-        x.want(4, 0, 0, 1, 0, 0);
-        return x;
-    }
-
     private static void leastOfSeveral() {
         // Hosts 0 and 1 on switches 0 and 1; only with 3 changed ahead of 0, and 3 ahead of 1.
-        RuleChangeDesk x = new RuleChangeDesk();
+        CountedDesk x = new CountedDesk();
         x.net(4);
         x.link(0, 1, 3, 0);
         x.host(0, 0);
@@ -882,7 +788,7 @@ public final class PromisesTest {
         due("18 not 0 with 3", roundsTaken(x, 9, 6), false);
     }
 
-    private static boolean roundsTaken(RuleChangeDesk x, int... sets) {
+    private static boolean roundsTaken(CountedDesk x, int... sets) {
         x.empty();
         boolean taken = true;
         for (int set : sets) {
@@ -895,21 +801,21 @@ public final class PromisesTest {
     // ---- promise 19
 
     private static void orders() {
-        due("19 none unlike", new RuleChangeDesk().orders(), 1);
+        due("19 none unlike", new CountedDesk().orders(), 1);
         int[] due = {1, 2, 6, 24, 120, 720, 5040};
         for (int n = 1; n <= 7; n++) {
-            due("19 all of " + n, loose(n).orders(), due[n - 1]);
+            due("19 all of " + n, Scenes.loose(n).orders(), due[n - 1]);
         }
-        due("19 one of two", wantedTriangle().orders(), 1);
-        due("19 both of two", triangle().orders(), 2);
-        due("19 none", deadlock().orders(), 0);
-        RuleChangeDesk x = wantedTriangle();
+        due("19 one of two", Scenes.wantedTriangle().orders(), 1);
+        due("19 both of two", Scenes.triangle().orders(), 2);
+        due("19 none", Scenes.deadlock().orders(), 0);
+        CountedDesk x = Scenes.wantedTriangle();
         x.round(2);
         x.begin();
         x.orders();
         due("19 the plan stays", x.plan(0), 2);
         due("19 the run stays", x.run(0), 0);
-        RuleChangeDesk y = wantedTriangle();
+        CountedDesk y = Scenes.wantedTriangle();
         y.rule(1, 2, 15, 15, 0, 4);
         due("19 with a third at any place", y.orders(), 3);
     }
@@ -917,7 +823,7 @@ public final class PromisesTest {
     // ---- promise 20
 
     private static void order() {
-        RuleChangeDesk x = wantedTriangle();
+        CountedDesk x = Scenes.wantedTriangle();
         x.rule(1, 2, 15, 15, 0, 4);
         int[][] due = {{1, 2, 4}, {1, 4, 2}, {4, 1, 2}};
         for (int k = 0; k < 3; k++) {
@@ -937,10 +843,10 @@ public final class PromisesTest {
         x.begin();
         due("20 order 0", x.order(0), true);
         due("20 the run ends", x.run(0), NONE);
-        due("20 none unlike", new RuleChangeDesk().order(0), true);
-        due("20 none unlike, 1", new RuleChangeDesk().order(1), false);
-        due("20 none is safe", deadlock().order(0), false);
-        RuleChangeDesk y = loose(7);
+        due("20 none unlike", new CountedDesk().order(0), true);
+        due("20 none unlike, 1", new CountedDesk().order(1), false);
+        due("20 none is safe", Scenes.deadlock().order(0), false);
+        CountedDesk y = Scenes.loose(7);
         due("20 the last of 5040", y.order(5039), true);
         for (int i = 0; i < 7; i++) {
             due("20 from behind " + i, y.plan(i), 1 << 6 - i);
@@ -956,7 +862,7 @@ public final class PromisesTest {
     // ---- promises 21 and 23
 
     private static void round() {
-        RuleChangeDesk x = loose(5);
+        CountedDesk x = Scenes.loose(5);
         x.copy(4, true);
         int[] no = {0, 16, 17, 32, 128, -1, LOW, HIGH};
         for (int set : no) {
@@ -980,7 +886,7 @@ public final class PromisesTest {
         due("23 no round -1", x.plan(-1), NONE);
         due("23 low", x.plan(LOW), NONE);
         due("23 high", x.plan(HIGH), NONE);
-        RuleChangeDesk y = loose(7);
+        CountedDesk y = Scenes.loose(7);
         for (int s = 6; s >= 0; s--) {
             due("21 seven rounds", y.round(1 << s), 7 - s);
         }
@@ -990,7 +896,7 @@ public final class PromisesTest {
     // ---- promise 22
 
     private static void empty() {
-        RuleChangeDesk x = triangle();
+        CountedDesk x = Scenes.triangle();
         x.round(3);
         x.begin();
         x.empty();
@@ -1009,7 +915,7 @@ public final class PromisesTest {
     // ---- promise 24
 
     private static void mid() {
-        RuleChangeDesk x = wantedTriangle();
+        CountedDesk x = Scenes.wantedTriangle();
         x.round(3);
         due("24 bad in the midst", x.mid(0), 2);
         due("24 no round 1", x.mid(1), NONE);
@@ -1026,7 +932,7 @@ public final class PromisesTest {
         x.round(1);
         due("24 with all of its own", x.mid(0), 2);
         due("24 with none of its own", x.mid(1), 2);
-        RuleChangeDesk y = wantedTriangle();
+        CountedDesk y = Scenes.wantedTriangle();
         y.rule(1, 2, 15, 15, 0, 4);
         y.round(4);
         y.round(3);
@@ -1040,7 +946,7 @@ public final class PromisesTest {
     // ---- promise 25
 
     private static void begin() {
-        RuleChangeDesk x = triangle();
+        CountedDesk x = Scenes.triangle();
         due("25 no round", x.begin(), false);
         due("25 no run", x.run(0), NONE);
         x.round(1);
@@ -1065,7 +971,7 @@ public final class PromisesTest {
     // ---- promise 26
 
     private static void send() {
-        RuleChangeDesk x = triangle();
+        CountedDesk x = Scenes.triangle();
         due("26 no run", x.send(0, 0), NONE);
         x.round(3);
         due("26 a plan is no run", x.send(0, 0), NONE);
@@ -1090,7 +996,7 @@ public final class PromisesTest {
     // ---- promise 27
 
     private static void hop() {
-        RuleChangeDesk x = triangle();
+        CountedDesk x = Scenes.triangle();
         due("27 no run", x.hop(0), NONE);
         x.round(3);
         x.begin();
@@ -1127,7 +1033,7 @@ public final class PromisesTest {
     }
 
     private static void hopByRulesOfNow() {
-        RuleChangeDesk x = triangle();
+        CountedDesk x = Scenes.triangle();
         x.round(2);
         x.round(1);
         x.begin();
@@ -1145,7 +1051,7 @@ public final class PromisesTest {
         due("27 now by new", x.hop(2), 2);
         due("27 to the host", x.hop(2), 101);
         // A ring that no mixture alone would make: the packet is behind switch 1 when that changes.
-        RuleChangeDesk y = new RuleChangeDesk();
+        CountedDesk y = new CountedDesk();
         y.net(2);
         y.link(0, 1, 1, 0);
         y.host(0, 0);
@@ -1167,7 +1073,7 @@ public final class PromisesTest {
     // ---- promise 28
 
     private static void change() {
-        RuleChangeDesk x = loose(4);
+        CountedDesk x = Scenes.loose(4);
         due("28 no run", x.change(0), NONE);
         x.round(11);
         x.round(4);
@@ -1196,7 +1102,7 @@ public final class PromisesTest {
     // ---- promise 29
 
     private static void next() {
-        RuleChangeDesk x = triangle();
+        CountedDesk x = Scenes.triangle();
         due("29 no run", x.next(), NONE);
         x.round(3);
         x.begin();
@@ -1230,7 +1136,7 @@ public final class PromisesTest {
     // ---- term 3 and promise 30, what 4
 
     private static void brokenWants() {
-        RuleChangeDesk x = triangle();
+        CountedDesk x = Scenes.triangle();
         x.want(0, 0, 1, 0, 1, 0);
         x.want(0, 0, 0, 0, 1, 0);
         x.want(4, 0, 0, 0, 0, 0);
@@ -1265,7 +1171,7 @@ public final class PromisesTest {
         x.change(1);
         x.hop(1);
         due("30 past the change already", x.run(4), 0);
-        RuleChangeDesk y = triangle();
+        CountedDesk y = Scenes.triangle();
         y.want(3, 0, 0, 0, 1, 1);
         y.round(1);
         y.begin();
@@ -1279,7 +1185,7 @@ public final class PromisesTest {
 
     /** A packet that comes past 1 by no mixture: PAST, NEVER and WHOLE are judged by its own way. */
     private static void brokenPast() {
-        RuleChangeDesk x = new RuleChangeDesk();
+        CountedDesk x = new CountedDesk();
         x.net(3);
         x.link(0, 1, 1, 0);
         x.link(0, 2, 2, 0);
@@ -1307,7 +1213,7 @@ public final class PromisesTest {
     // ---- promise 30
 
     private static void run() {
-        RuleChangeDesk x = triangle();
+        CountedDesk x = Scenes.triangle();
         due("30 no run", x.run(0), NONE);
         x.round(2);
         x.round(1);
@@ -1332,7 +1238,7 @@ public final class PromisesTest {
     // ---- promise 31
 
     private static void packet() {
-        RuleChangeDesk x = triangle();
+        CountedDesk x = Scenes.triangle();
         due("31 no run", x.packet(0, 0), NONE);
         x.round(3);
         x.begin();
@@ -1374,7 +1280,7 @@ public final class PromisesTest {
 
     private static void whatEndsARun() {
         for (int i = 0; i < 24; i++) {
-            RuleChangeDesk x = wantedTriangle();
+            CountedDesk x = Scenes.wantedTriangle();
             x.round(1);
             x.begin();
             boolean ends = i < 9;
@@ -1386,7 +1292,7 @@ public final class PromisesTest {
     }
 
     /** The first nine change something; those up to 13 only look; the others are refused. */
-    private static int act(RuleChangeDesk x, int i) {
+    private static int act(CountedDesk x, int i) {
         switch (i) {
             case 0: return x.net(3) ? 1 : NONE;
             case 1: return x.link(0, 3, 1, 3) ? 1 : NONE;
@@ -1418,7 +1324,7 @@ public final class PromisesTest {
     // ---- all limits at once
 
     private static void fullDesk() {
-        RuleChangeDesk x = new RuleChangeDesk();
+        CountedDesk x = new CountedDesk();
         x.net(7);
         for (int s = 0; s < 7; s++) {
             x.link(s, 0, (s + 1) % 7, 1);
@@ -1459,7 +1365,7 @@ public final class PromisesTest {
         int[] odd = {LOW, LOW + 1, -129, -100, -2, -1, 7, 16, 31, 32, 33, 64, 100, 107, 127, 128, 1000, HIGH - 1, HIGH};
         for (int a : odd) {
             for (int b : odd) {
-                RuleChangeDesk x = wantedTriangle();
+                CountedDesk x = Scenes.wantedTriangle();
                 x.least();
                 x.begin();
                 x.send(0, 0);

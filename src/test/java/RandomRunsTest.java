@@ -1,8 +1,10 @@
 import java.util.Random;
 
-/** Runs of chosen-by-lot calls (always the same ones), on the desk and on SlowDesk at once. */
+/** Runs of up to 512 calls chosen by lot (always the same ones), on the desk and on SlowDesk at once. */
 public final class RandomRunsTest {
-    private static final int RUNS = 1000;
+    private static final int RUNS = 8000;
+    // The most calls that are made between two looks at how many are left to a desk.
+    private static final int AT_ONCE = 60;
     private static final int[] ODD = {-1, 0, 1, 2, 7, 15, 16, 31, 40, 99, 100, 128,
         Integer.MIN_VALUE, Integer.MAX_VALUE, Integer.MIN_VALUE + 99, Integer.MAX_VALUE - 99};
     private static int wrong = 0;
@@ -11,7 +13,7 @@ public final class RandomRunsTest {
 
     private final Random lot;
     private final int run;
-    private final RuleChangeDesk desk = new RuleChangeDesk();
+    private final CountedDesk desk = new CountedDesk();
     private final SlowDesk slow = new SlowDesk();
     // Of 100 asked things, how many change the net, a rule or a want.
     private int changes;
@@ -69,10 +71,14 @@ public final class RandomRunsTest {
             changes = 8;
             build();
         }
-        int calls = 90 + below(200);
-        for (int i = 0; i < calls; i++) {
+        while (hasCallsLeft()) {
             ask();
         }
+        allState();
+    }
+
+    private boolean hasCallsLeft() {
+        return desk.callsLeft() > 2 * AT_ONCE;
     }
 
     private void build() {
@@ -112,7 +118,14 @@ public final class RandomRunsTest {
             host(below(slow.n), below(4));
         }
         for (int i = 150; i > 0; i--) {
-            link(below(slow.n), below(4), below(slow.n), below(4));
+            int s = below(slow.n);
+            int p = below(4);
+            int t = below(slow.n);
+            int q = below(4);
+            // Most tries would be refused; a few of those are enough.
+            if ((s != t && slow.ports[s][p] == null && slow.ports[t][q] == null) || below(20) == 0) {
+                link(s, p, t, q);
+            }
         }
         for (int book = 0; book < 2; book++) {
             int bits = below(3) == 0 ? 1 << below(4) : 0;
@@ -209,17 +222,44 @@ public final class RandomRunsTest {
         state();
     }
 
-    /** What may never change by a call that is refused. */
+    /** A part of what may never change by a call that is refused: all of it would use up the calls too soon. */
     private void state() {
+        switch (below(6)) {
+            case 0:
+                looks();
+                break;
+            case 1:
+                roundsAndStops();
+                break;
+            case 2:
+                runs();
+                break;
+            default:
+        }
+    }
+
+    private void allState() {
+        looks();
+        roundsAndStops();
+        runs();
+    }
+
+    private void looks() {
         for (int what = -1; what <= 10; what++) {
             if (what != 7 || below(10) == 0) {
                 same("look(" + what + ")", desk.look(what), slow.look(what));
             }
         }
+    }
+
+    private void roundsAndStops() {
         for (int i = -1; i <= 7; i++) {
             same("plan(" + i + ")", desk.plan(i), slow.plan(i));
             same("on(" + i + ")", desk.on(i), slow.on(i));
         }
+    }
+
+    private void runs() {
         for (int what = -1; what <= 5; what++) {
             same("run(" + what + ")", desk.run(what), slow.run(what));
         }
@@ -343,7 +383,7 @@ public final class RandomRunsTest {
             same("begin()", desk.begin(), slow.begin());
         }
         boolean crowd = below(20) == 0;
-        for (int i = below(12) + (crowd ? 45 : 0); i > 0; i--) {
+        for (int i = below(12) + (crowd ? 45 : 0); i > 0 && hasCallsLeft(); i--) {
             int k = some(slow.packets.size());
             switch (below(crowd ? 2 : 8)) {
                 case 0:
@@ -380,7 +420,7 @@ public final class RandomRunsTest {
 
     private void hopAll() {
         for (int k = 0; k < slow.packets.size(); k++) {
-            for (int i = below(9); i > 0; i--) {
+            for (int i = below(9); i > 0 && hasCallsLeft(); i--) {
                 int broken = slow.broken;
                 same("hop(" + k + ")", desk.hop(k), slow.hop(k));
                 met[7] += slow.broken > broken ? 1 : 0;
