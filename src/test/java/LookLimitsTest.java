@@ -11,6 +11,7 @@ public final class LookLimitsTest {
         lookAtTheGreatest();
         goodMixturesFromTwoToAll();
         goodMixturesOfUnlikeSwitchesAlone();
+        goodMixturesByEachMarkAndWant();
         wholeFromNothingToAll();
         changesUpToThe512thCall();
         runUpToThe512thCall();
@@ -64,6 +65,29 @@ public final class LookLimitsTest {
         Check.due("11 now it does", y.look(7), 6);
         y.unwant(0);
         Check.due("11 without wants", y.look(7), 8);
+    }
+
+    // terms 2: "GOOD is a MIXTURE in which all KEPT ones hold."
+    private static void goodMixturesByEachMarkAndWant() {
+        for (int mark = 0; mark < 16; mark++) {
+            CountedDesk x = Scenes.triangle();
+            x.want(0, mark, 15, 0, 1, 0);
+            Check.due("11 one mark, " + mark, x.look(7), 3);
+        }
+        for (int i = 0; i < 10; i++) {
+            CountedDesk x = Scenes.triangle();
+            for (int j = 0; j < 10; j++) {
+                x.want(j == i ? 0 : 1, 0, 0, 0, 1, 0);
+            }
+            Check.due("11 want " + i + " alone", x.look(7), 3);
+        }
+        for (int n = 2; n <= 7; n++) {
+            for (int bad = 1; bad < (1 << n) - 1; bad++) {
+                CountedDesk x = Scenes.forbidding(n, new int[] {(1 << n) - 1, bad});
+                Check.due("11 all of " + n + " but " + bad, x.look(7), (1 << n) - 1);
+                Check.due("17 " + bad + " of " + n + " is not good", x.why(bad, 0), 0);
+            }
+        }
     }
 
     private static void wholeFromNothingToAll() {

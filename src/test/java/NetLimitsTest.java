@@ -191,7 +191,7 @@ public final class NetLimitsTest {
         Traces.no("3 from a link's other end", Scenes.BUSY, x -> x.link(1, 0, 3, 1));
         Traces.no("3 to a link's first end", Scenes.BUSY, x -> x.link(3, 1, 0, 1));
         Traces.no("3 to a link's other end", Scenes.BUSY, x -> x.link(3, 1, 1, 0));
-        Traces.no("3 to a link that leads to port 0 of switch 0", () -> linkToTheFirstPort(), x -> x.link(2, 0, 1, 3));
+        Traces.no("3 to a link that leads to port 0 of switch 0", NetLimitsTest::linkToTheFirstPort, x -> x.link(2, 0, 1, 3));
         Traces.no("3 a link once more", Scenes.BUSY, x -> x.link(0, 1, 1, 0));
         Traces.no("3 a link the other way round", Scenes.BUSY, x -> x.link(1, 0, 0, 1));
         Traces.no("3 both are taken", Scenes.BUSY, x -> x.link(0, 0, 3, 3));
@@ -346,13 +346,21 @@ public final class NetLimitsTest {
                 Check.due(what + " both are free", x.link(link[2], link[3], link[0], link[1]), true);
             }
         }
+        int[][] firstPort = {{0, 0}, {1, 3}};
+        for (int[] end : firstPort) {
+            CountedDesk x = linkToTheFirstPort();
+            Check.due("5 link of the first port, at " + end[0], x.unplug(end[0], end[1]), true);
+            Check.due("5 no link", x.look(2), 0);
+            Check.due("5 the first port is free", x.host(0, 0), 0);
+            Check.due("5 the other one too", x.host(1, 3), 1);
+        }
     }
 
     // "of a HOST only the last one that came may go"
     private static void unplugRefusesAHostThatIsNotTheLast() {
         for (int h = 0; h < 5; h++) {
             int at = h;
-            Traces.no("5 host " + h + " of 6", () -> sixHosts(), x -> x.unplug(at, 2));
+            Traces.no("5 host " + h + " of 6", NetLimitsTest::sixHosts, x -> x.unplug(at, 2));
         }
         for (int p = 0; p < 4; p++) {
             CountedDesk x = new CountedDesk();

@@ -14,7 +14,9 @@ public final class PlanLimitsTest {
         leastRefusesWhereThereIsNone();
         leastOfSeveralHasTheLeastFirstRound();
         leastOfSeveralHasTheLeastSecondRound();
+        leastIsNotTheGreatestFirstRound();
         leastMakesThePlanAnew();
+        fewerAndFewerUnlike();
         ordersFromNoneToAll();
         orderRefusesNoSuchOne();
         orderRefusesWhereThereIsNone();
@@ -169,6 +171,49 @@ public final class PlanLimitsTest {
         }
         Check.due("18 three rounds", x.least(), 3);
         planIs("18 the least first, then the least second", x, 64, 8 + 32, 1 + 2 + 4 + 16);
+    }
+
+    // "the fewest ROUNDS", also where another plan has a first round that is as good to take
+    private static void leastIsNotTheGreatestFirstRound() {
+        // Not good: 2 alone, 0 with 3, 1 with 3. So 3 may go first too, but then three rounds are needed.
+        CountedDesk x = Scenes.forbidding(4, new int[] {15, 4}, new int[] {15, 9}, new int[] {15, 10});
+        Check.due("18 good ones", x.look(7), 13);
+        Check.due("18 two rounds", x.least(), 2);
+        planIs("18 two rounds", x, 3, 12);
+        x.empty();
+        int[] other = {8, 4, 3};
+        for (int i = 0; i < 3; i++) {
+            Check.due("18 another plan", x.round(other[i]), i + 1);
+            Check.due("18 is taken too", x.mid(i), NONE);
+        }
+        // The mirror image: 0 may go first too.
+        CountedDesk y = Scenes.forbidding(4, new int[] {15, 2}, new int[] {15, 9}, new int[] {15, 5});
+        Check.due("18 two rounds of the mirror", y.least(), 2);
+        planIs("18 two rounds of the mirror", y, 12, 3);
+    }
+
+    /** What was found out for more unlike switches is not told for fewer. */
+    private static void fewerAndFewerUnlike() {
+        CountedDesk x = Scenes.loose(7);
+        int[] products = {1, 1, 2, 6, 24, 120, 720, 5040};
+        for (int left = 7; left >= 0; left--) {
+            Check.due("19 orders of " + left, x.orders(), products[left]);
+            Check.due("18 rounds of " + left, x.least(), left == 0 ? 0 : 1);
+            Check.due("18 all of " + left, x.plan(0), left == 0 ? NONE : (1 << left) - 1);
+            Check.due("20 the last of " + left, x.order(products[left] - 1), true);
+            Check.due("20 its first", x.plan(0), left == 0 ? NONE : 1 << (left - 1));
+            Check.due("20 its rounds", x.look(8), left);
+            Check.due("20 no more", x.order(products[left]), false);
+            x.copy(left - 1, true);
+        }
+        CountedDesk y = Scenes.loose(7);
+        for (int first = 0; first < 7; first++) {
+            Check.due("19 orders from " + first, y.orders(), products[7 - first]);
+            Check.due("18 all from " + first, y.least() * 1000 + y.plan(0), 1000 + 128 - (1 << first));
+            y.order(0);
+            Check.due("20 the first from " + first, y.plan(0), 1 << first);
+            y.copy(first, false);
+        }
     }
 
     private static void leastMakesThePlanAnew() {
@@ -394,9 +439,8 @@ public final class PlanLimitsTest {
     // ---- promise 22: "The PLAN is empty; the run ends."
 
     private static void emptyOfWhatIsEmpty() {
-        Supplier<CountedDesk> noPlan = () -> Scenes.wantedTriangle();
         Traces.none("22 twice, fresh", Scenes.FRESH, PlanLimitsTest::emptyTwice);
-        Traces.none("22 twice, no plan", noPlan, PlanLimitsTest::emptyTwice);
+        Traces.none("22 twice, no plan", Scenes::wantedTriangle, PlanLimitsTest::emptyTwice);
     }
 
     private static int emptyTwice(CountedDesk x) {
@@ -458,6 +502,13 @@ public final class PlanLimitsTest {
         Check.due("24 round 1", x.mid(1), 2);
         x.empty();
         Check.due("24 round 0 has gone", x.mid(0), NONE);
+        // What all rounds leave is not good, yet there is no round behind them that would not be taken.
+        Supplier<CountedDesk> badEnd = () -> {
+            CountedDesk y = Scenes.wantedTriangle();
+            y.round(2);
+            return y;
+        };
+        Traces.noneOutside("24 round of 1", badEnd, 0, 0, CountedDesk::mid);
     }
 
     private static void midOfATakenRound() {

@@ -64,9 +64,13 @@ public final class RandomRunsTest {
     }
 
     private void go() {
-        if (below(2) == 0) {
+        int how = below(5);
+        if (how < 2) {
             changes = 2;
             buildRouted();
+        } else if (how == 2) {
+            changes = 1;
+            buildForbidding();
         } else {
             changes = 8;
             build();
@@ -143,6 +147,30 @@ public final class RandomRunsTest {
             int s = below(slow.n);
             same("want(" + kind + ", ..)", desk.want(kind, value, bits, a, 0, s),
                     slow.want(kind, value, bits, a, 0, s));
+        }
+    }
+
+    /** As Scenes.forbidding: a few mixtures that are not good, wherever the lot puts them. */
+    private void buildForbidding() {
+        net(3 + below(5));
+        host(0, 0);
+        host(slow.n - 1, 1);
+        for (int s = 0; s + 1 < slow.n; s++) {
+            link(s, 1, s + 1, 0);
+        }
+        for (int mark = below(7) - 1; mark >= 0; mark--) {
+            int care = below(1 << slow.n) | below(1 << slow.n);
+            int value = below(1 << slow.n);
+            for (int s = 0; s < slow.n; s++) {
+                boolean any = (care >> s & 1) == 0;
+                if (any || (value >> s & 1) == 0) {
+                    ruleFor(0, s, mark, 15, 1);
+                }
+                if (any || (value >> s & 1) == 1) {
+                    ruleFor(1, s, mark, 15, 1);
+                }
+            }
+            same("want(2, " + mark + ", ..)", desk.want(2, mark, 15, 0, 1, 0), slow.want(2, mark, 15, 0, 1, 0));
         }
     }
 

@@ -41,6 +41,8 @@ public final class RunLimitsTest {
         runFromNothingToAll();
         brokenFromNoneToAll();
         brokenOnceAPacketHasEnded();
+        brokenWholeByItsOwnMark();
+        brokenWholeByItsOwnWay();
         packetRefusesWithoutARun();
         packetRefusesNoSuchPacket();
         packetRefusesAnotherWhat();
@@ -589,6 +591,49 @@ public final class RunLimitsTest {
         x.send(1, 7);
         x.hop(5);
         Check.due("30 from another host", x.run(4), 3);
+    }
+
+    private static void brokenWholeByItsOwnMark() {
+        CountedDesk x = Scenes.sixHosts();
+        x.want(4, 0, 0, 0, 0, 0);
+        x.want(4, 0, 0, 5, 0, 0);
+        x.round(3);
+        x.begin();
+        int put = 0;
+        for (int mark = 0; mark < 16; mark++) {
+            x.send(0, mark);
+            x.send(5, mark);
+            x.hop(put++);
+            x.hop(put++);
+            Check.due("30 by old, mark " + mark, x.run(4), 0);
+        }
+        x.change(0);
+        x.send(0, 0);
+        Check.due("30 by new", x.hop(put), 110);
+        Check.due("30 whole by new", x.run(4), 0);
+    }
+
+    /** Three switches, dropped: so long and so ended are the ways of both books and those of neither. */
+    private static void brokenWholeByItsOwnWay() {
+        // A digit is a switch that changes, h a hop of the packet.
+        String[] acts = {"hhh", "0hhh", "1hhh", "02hhh", "h0hh", "h1hh", "0h2hh", "0hh2h"};
+        int[] due = {0, 1, 1, 0, 0, 1, 0, 1};
+        for (int i = 0; i < acts.length; i++) {
+            CountedDesk x = Scenes.twoLanes();
+            x.round(7);
+            x.begin();
+            x.send(0, 0);
+            for (char act : acts[i].toCharArray()) {
+                if (act == 'h') {
+                    x.hop(0);
+                } else {
+                    x.change(act - '0');
+                }
+            }
+            Check.due("30 dropped, " + acts[i], x.packet(0, 3), 10);
+            Check.due("30 three switches, " + acts[i], x.packet(0, 4), 3);
+            Check.due("30 broken, " + acts[i], x.run(4), due[i]);
+        }
     }
 
     // ---- promise 31: "NONE if there is none such, or another what."

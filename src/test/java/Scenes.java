@@ -113,6 +113,57 @@ final class Scenes {
         return x;
     }
 
+    /**
+     * A line in which mark i comes to host 1 just where the switches of cubes[i][0] are new that are of
+     * cubes[i][1] and old that are not; it never must, so these mixtures are not good.
+     */
+    static CountedDesk forbidding(int n, int[]... cubes) {
+        CountedDesk x = new CountedDesk();
+        x.net(n);
+        x.host(0, 0);
+        x.host(n - 1, 1);
+        for (int s = 0; s < n; s++) {
+            if (s + 1 < n) {
+                x.link(s, 1, s + 1, 0);
+            }
+            for (int i = 0; i < cubes.length; i++) {
+                boolean byOld = (cubes[i][0] >> s & 1) == 0 || (cubes[i][1] >> s & 1) == 0;
+                boolean byNew = (cubes[i][0] >> s & 1) == 0 || (cubes[i][1] >> s & 1) == 1;
+                if (byOld) {
+                    x.rule(0, s, i, 15, 0, 1);
+                }
+                if (byNew) {
+                    x.rule(1, s, i, 15, 0, 1);
+                }
+            }
+        }
+        for (int i = 0; i < cubes.length; i++) {
+            x.want(2, i, 15, 0, 1, 0);
+        }
+        return x;
+    }
+
+    /**
+     * By old the way is 0, 1, 3, by new 0, 2, 4, all of it dropped at its last switch; with 0 alone new it
+     * is 0, 2, 3, with 1 alone new 0, 1, 4: as long, and with the same end. Host 0 wants it WHOLE.
+     */
+    static CountedDesk twoLanes() {
+        CountedDesk x = new CountedDesk();
+        x.net(5);
+        x.host(0, 0);
+        for (int s = 1; s <= 2; s++) {
+            x.link(0, s, s, 0);
+            x.link(s, 1, 3, s);
+            x.link(s, 2, 4, s);
+            x.rule(0, s, 0, 0, 0, 1);
+            x.rule(1, s, 0, 0, 0, 2);
+        }
+        x.rule(0, 0, 0, 0, 0, 1);
+        x.rule(1, 0, 0, 0, 0, 2);
+        x.want(4, 0, 0, 0, 0, 0);
+        return x;
+    }
+
     /** Six hosts at two switches; by OLD both send mark p to port p, and drop marks from 4 on. */
     static CountedDesk sixHosts() {
         CountedDesk x = new CountedDesk();

@@ -29,8 +29,10 @@ public final class WantLimitsTest {
         noRingAtEachEnd();
         pastAtEachSwitch();
         wholeOfOneMarkByOldAndAnotherByNew();
+        wholeBySwitchesAndEnd();
         keptRefusesNoSuchWant();
         keptNeedsOldAndNew();
+        keptIsAnewBehindEachChange();
         whyRefusesNoSuchMixture();
         whyRefusesAnotherWhat();
         whyOfAGoodMixture();
@@ -285,6 +287,27 @@ public final class WantLimitsTest {
         Check.due("t2 marks from 8 as by old, the others as by new", x.holds(0, 1), 1);
     }
 
+    private static void wholeBySwitchesAndEnd() {
+        CountedDesk x = Scenes.twoLanes();
+        for (int mixture = 0; mixture < 32; mixture++) {
+            // By old up to where the way goes, or by new up to there.
+            boolean whole = (mixture & 1) == 0 ? (mixture & 2) == 0 : (mixture & 4) != 0;
+            Check.due("t2 three switches, dropped, in " + mixture, x.way(mixture, 0, 0) * 100 + x.on(NONE), 310);
+            Check.due("t2 whole in " + mixture, x.holds(0, mixture), whole ? 1 : 0);
+        }
+        CountedDesk y = new CountedDesk();
+        y.host(0, 0);
+        y.host(0, 1);
+        y.rule(0, 0, 0, 0, 0, 0);
+        y.rule(1, 0, 0, 0, 0, 1);
+        y.want(4, 0, 0, 0, 0, 0);
+        Check.due("t2 one switch, one end or the other", y.holds(0, 0) + y.holds(0, 1), 2);
+        CountedDesk z = Scenes.line(2);
+        z.want(4, 0, 0, 0, 0, 0);
+        Check.due("t2 all switches of old, another end", z.holds(0, 2), 0);
+        Check.due("t2 the end of new, one switch more", z.way(2, 0, 0) * 100 + z.on(NONE), 210);
+    }
+
     // ---- promise 16: "Whether a WANT is KEPT: 1, 0; NONE if there is none such."
 
     private static void keptRefusesNoSuchWant() {
@@ -311,6 +334,41 @@ public final class WantLimitsTest {
         y.rule(1, 6, 0, 0, 0, 0);
         Check.due("16 all seven new", y.kept(0), 1);
         Check.due("16 the last alone new", y.holds(0, 64), 0);
+    }
+
+    /** What was found out ahead of a change of the net, a rule or a want is not told behind it. */
+    private static void keptIsAnewBehindEachChange() {
+        CountedDesk x = Scenes.wantedTriangle();
+        keptAndGood("16 as it is", x, 1, 3);
+        x.unplug(0, 2);
+        keptAndGood("16 without a link", x, 0, 4);
+        x.link(0, 2, 2, 1);
+        keptAndGood("16 with it", x, 1, 3);
+        x.strike(1, 0, 0);
+        keptAndGood("16 without a new rule", x, 0, 4);
+        x.rule(1, 0, 0, 0, 5, 2);
+        keptAndGood("16 with one", x, 1, 3);
+        x.rule(0, 2, 15, 15, 9, 4);
+        keptAndGood("16 with an old rule more", x, 0, 8);
+        x.copy(2, false);
+        keptAndGood("16 with a row copied", x, 1, 3);
+        x.want(2, 3, 15, 0, 1, 0);
+        x.unwant(0);
+        keptAndGood("16 of another want", x, 0, 4);
+        x.want(1, 0, 0, 0, 0, 0);
+        x.unwant(0);
+        keptAndGood("16 of one more", x, 1, 4);
+        x.rule(1, 1, 0, 0, 0, 0);
+        keptAndGood("16 with a ring in a mixture", x, 1, 3);
+        x.net(3);
+        Check.due("16 in a bare net", x.kept(0), NONE);
+        Check.due("16 all is good in a bare net", x.look(7), 1);
+    }
+
+    private static void keptAndGood(String what, CountedDesk x, int kept, int good) {
+        Check.due(what + ": kept", x.kept(0), kept);
+        Check.due(what + ": good mixtures", x.look(7), good);
+        Check.due(what + ": why", x.why(2, 0), good == 3 ? 0 : NONE);
     }
 
     // ---- promise 17: "NONE if it is GOOD, no MIXTURE, or another what."
@@ -367,11 +425,11 @@ public final class WantLimitsTest {
                     // One that is not kept, and one that is and holds: neither counts.
                     x.want(i % 2 == 0 ? 3 : 1, 0, 0, 0, 1, 1);
                 } else {
-                    x.want(0, i, 15, 0, 1, 0);
+                    x.want(0, 15 - i, 15, 0, 1, 0);
                 }
             }
             Check.due("17 the first is " + first, x.why(2, 0), first);
-            Check.due("17 its mark", x.why(2, 1), first);
+            Check.due("17 its mark", x.why(2, 1), 15 - first);
             Check.due("17 one that is not kept", x.why(1, 0), NONE);
         }
     }
