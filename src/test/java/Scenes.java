@@ -53,16 +53,22 @@ final class Scenes {
         return x;
     }
 
-    /** A line of switches, each sending on by port 1; host 0 at the first, host 1 at the last. */
-    static CountedDesk line(int n) {
+    /** A line of switches without rules: port 1 of each leads on; host 0 at the first, host 1 at the last. */
+    private static CountedDesk bareLine(int n) {
         CountedDesk x = new CountedDesk();
         x.net(n);
         x.host(0, 0);
         x.host(n - 1, 1);
+        for (int s = 0; s + 1 < n; s++) {
+            x.link(s, 1, s + 1, 0);
+        }
+        return x;
+    }
+
+    /** A line of switches, each sending on by port 1; host 0 at the first, host 1 at the last. */
+    static CountedDesk line(int n) {
+        CountedDesk x = bareLine(n);
         for (int s = 0; s < n; s++) {
-            if (s + 1 < n) {
-                x.link(s, 1, s + 1, 0);
-            }
             x.rule(0, s, 0, 0, 3, 1);
         }
         return x;
@@ -118,14 +124,8 @@ final class Scenes {
      * cubes[i][1] and old that are not; it never must, so these mixtures are not good.
      */
     static CountedDesk forbidding(int n, int[]... cubes) {
-        CountedDesk x = new CountedDesk();
-        x.net(n);
-        x.host(0, 0);
-        x.host(n - 1, 1);
+        CountedDesk x = bareLine(n);
         for (int s = 0; s < n; s++) {
-            if (s + 1 < n) {
-                x.link(s, 1, s + 1, 0);
-            }
             for (int i = 0; i < cubes.length; i++) {
                 boolean byOld = (cubes[i][0] >> s & 1) == 0 || (cubes[i][1] >> s & 1) == 0;
                 boolean byNew = (cubes[i][0] >> s & 1) == 0 || (cubes[i][1] >> s & 1) == 1;
