@@ -24,6 +24,7 @@ public final class PlanLimitsTest {
         ordersFirstAndLast();
         eachOrderIsAnother();
         leastAndOrderEndTheRun();
+        refusedLeastAndOrderLeaveTheRun();
         roundRefusesTheEmptySet();
         roundRefusesWhatIsNotUnlike();
         roundRefusesWhatIsInARound();
@@ -332,6 +333,22 @@ public final class PlanLimitsTest {
         CountedDesk z = Scenes.BUSY.get();
         Check.due("19 in a run", z.orders(), 3);
         Check.due("19 it goes on", z.run(2), 3);
+    }
+
+    // "(The run ends.)" stands behind round()'s "nothing is done" too, so it is read as being of calls that are done
+    private static void refusedLeastAndOrderLeaveTheRun() {
+        Supplier<CountedDesk> inARun = () -> {
+            CountedDesk x = stuck(2, 1);
+            x.begin();
+            x.send(0, 1);
+            x.change(1);
+            x.hop(0);
+            return x;
+        };
+        Traces.none("18 none, in a run", inARun, CountedDesk::least);
+        Traces.no("20 order 0 of none, in a run", inARun, x -> x.order(0));
+        Traces.noOutside("20 order of 3, in a run", Scenes.BUSY, 0, 2, CountedDesk::order);
+        Traces.no("20 order of 3, all rounds done", Scenes.DONE, x -> x.order(3));
     }
 
     // ---- promise 21: "NONE, and nothing is done: it is empty, has a SWITCH that is not UNLIKE or is in a ROUND
