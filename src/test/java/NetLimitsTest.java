@@ -191,7 +191,8 @@ public final class NetLimitsTest {
         Traces.no("3 from a link's other end", Scenes.BUSY, x -> x.link(1, 0, 3, 1));
         Traces.no("3 to a link's first end", Scenes.BUSY, x -> x.link(3, 1, 0, 1));
         Traces.no("3 to a link's other end", Scenes.BUSY, x -> x.link(3, 1, 1, 0));
-        Traces.no("3 to a link that leads to port 0 of switch 0", NetLimitsTest::linkToTheFirstPort, x -> x.link(2, 0, 1, 3));
+        Traces.no("3 to a link that leads to port 0 of switch 0", NetLimitsTest::linkToTheFirstPort,
+                x -> x.link(2, 0, 1, 3));
         Traces.no("3 a link once more", Scenes.BUSY, x -> x.link(0, 1, 1, 0));
         Traces.no("3 a link the other way round", Scenes.BUSY, x -> x.link(1, 0, 0, 1));
         Traces.no("3 both are taken", Scenes.BUSY, x -> x.link(0, 0, 3, 3));
